@@ -1,0 +1,59 @@
+public final class Promise10ScheduleTest {
+    private static void schedule(SdfScheduler x, int verdict, int length, String due) {
+        Checks.due("analyze()", x.analyze(), verdict);
+        Checks.due("scheduleLength()", x.scheduleLength(), length);
+        Checks.due("schedule", Checks.schedule(x), due);
+        int[] wrong = {-1, length, length + 1, 256, Integer.MIN_VALUE, Integer.MAX_VALUE};
+        for (int i : wrong) {
+            Checks.due("scheduleAt(" + i + ")", x.scheduleAt(i), -1);
+        }
+    }
+
+    private static void leastEnabledFirst() {
+        schedule(Checks.graph(3), SdfScheduler.V_OK, 3, "0 1 2");
+        schedule(Checks.graph(2, Checks.ch(0, 1, 2, 3)), SdfScheduler.V_OK, 5, "0 0 0 1 1");
+        schedule(Checks.graph(2, Checks.ch(0, 1, 2, 3, 0, 4)), SdfScheduler.V_OK, 5, "0 0 1 0 1");
+        schedule(Checks.graph(2, Checks.ch(1, 0, 2, 3)), SdfScheduler.V_OK, 5, "1 1 0 1 0");
+        schedule(Checks.graph(2, Checks.ch(1, 0, 2, 3, 6)), SdfScheduler.V_OK, 5, "0 0 1 1 1");
+        schedule(Checks.graph(3, Checks.ch(2, 1, 1, 2), Checks.ch(1, 0, 1, 2)), SdfScheduler.V_OK, 7,
+            "2 2 1 2 2 1 0");
+        schedule(Checks.graph(3, Checks.ch(0, 1, 1, 1), Checks.ch(1, 2, 1, 1), Checks.ch(2, 0, 1, 1, 1)),
+            SdfScheduler.V_OK, 3, "0 1 2");
+    }
+
+    private static void withEachVerdict() {
+        schedule(Checks.graph(1, Checks.ch(0, 0, 1, 1)), SdfScheduler.V_DEADLOCK, 0, "");
+        schedule(Checks.graph(2, Checks.ch(0, 1, 2, 3, 0, 3)), SdfScheduler.V_DEADLOCK, 1, "0");
+        schedule(Checks.graph(3, Checks.ch(0, 0, 1, 1), Checks.ch(1, 2, 1, 2)), SdfScheduler.V_DEADLOCK, 3, "1 1 2");
+        schedule(Promise07AnalyzeTest.selfLoops(17, 32), SdfScheduler.V_TOO_BIG, 1, "0");
+        schedule(Checks.graph(7, Promise07AnalyzeTest.PERIOD_OF_256), SdfScheduler.V_TOO_LONG, 0, "");
+        schedule(Checks.graph(0), SdfScheduler.V_EMPTY, 0, "");
+        SdfScheduler x = Checks.graph(2, Checks.ch(0, 1, 1, 1));
+        Checks.due("scheduleLength() before analyze()", x.scheduleLength(), 0);
+        Checks.due("scheduleAt(0) before analyze()", x.scheduleAt(0), -1);
+        x.analyze();
+        x.setTokens(0, 0);
+        Checks.due("scheduleLength() after an edit", x.scheduleLength(), 0);
+        Checks.due("scheduleAt(0) after an edit", x.scheduleAt(0), -1);
+        x.addChannel(0, 1, 1, 2);
+        schedule(x, SdfScheduler.V_INCONSISTENT, 0, "");
+    }
+
+    private static void theLongest() {
+        SdfScheduler x = Checks.graph(6, Promise07AnalyzeTest.PERIOD_OF_256);
+        StringBuilder due = new StringBuilder("0");
+        int[] repetitions = {1, 8, 64, 128, 48, 7};
+        for (int a = 1; a < 6; a++) {
+            due.append((" " + a).repeat(repetitions[a]));
+        }
+        schedule(x, SdfScheduler.V_OK, 256, due.toString());
+        Checks.due("scheduleAt(255)", x.scheduleAt(255), 5);
+    }
+
+    public static void main(String[] args) {
+        leastEnabledFirst();
+        withEachVerdict();
+        theLongest();
+        Checks.finish();
+    }
+}
