@@ -1,4 +1,4 @@
-/** What the tests share: comparing answers, building graphs, and seeing all that an object shows. */
+/** What the tests share: comparing answers, and seeing all that an object shows. */
 final class Checks {
     private static int wrong = 0;
     private static int made = 0;
@@ -36,33 +36,6 @@ final class Checks {
         if (wrong != 0 || made == 0) {
             System.exit(1);
         }
-    }
-
-    /** Each channel is {src, dst, prod, cons}, and, where told, its tokens and its capacity. */
-    static SdfScheduler graph(int actors, int[]... channels) {
-        SdfScheduler x = new SdfScheduler(10, 24);
-        fill(x, actors, channels);
-        return x;
-    }
-
-    static void fill(SdfScheduler x, int actors, int[]... channels) {
-        for (int a = 0; a < actors; a++) {
-            due("addActor()", x.addActor(), a);
-        }
-        for (int c = 0; c < channels.length; c++) {
-            int[] ch = channels[c];
-            due("addChannel()", x.addChannel(ch[0], ch[1], ch[2], ch[3]), c);
-            if (ch.length > 4) {
-                due("setTokens()", x.setTokens(c, ch[4]), true);
-            }
-            if (ch.length > 5) {
-                due("setCapacity()", x.setCapacity(c, ch[5]), true);
-            }
-        }
-    }
-
-    static int[] ch(int... numbers) {
-        return numbers;
     }
 
     /** The refused call stands between two looks at the object; then the graph shows itself in analyze(). */

@@ -151,7 +151,7 @@ final class Model implements Face {
         return q;
     }
 
-    /** Depth first with fractions from the root, then cleared of denominators and of common divisors. */
+    /** Fractions, outwards from the root, then cleared of denominators and of common divisors. */
     private boolean solvePart(int root, BigInteger[] q) {
         BigInteger[] num = new BigInteger[actors];
         BigInteger[] den = new BigInteger[actors];

@@ -1,6 +1,6 @@
 public final class Promise02ClearTest {
     private static void clearsEverything() {
-        SdfScheduler x = Checks.graph(3, Checks.ch(0, 1, 2, 1, 3, 9), Checks.ch(1, 2, 1, 1));
+        SdfScheduler x = Graphs.graph(3, Graphs.ch(0, 1, 2, 1, 3, 9), Graphs.ch(1, 2, 1, 1));
         Checks.due("analyze()", x.analyze(), SdfScheduler.V_OK);
         x.run(4);
         x.clear();
@@ -16,12 +16,12 @@ public final class Promise02ClearTest {
 
     /** What the old channel 0 had must not come back with the new one. */
     private static void newChannelsStartAnew() {
-        SdfScheduler x = Checks.graph(2, Checks.ch(0, 1, 1, 1, 5, 5));
+        SdfScheduler x = Graphs.graph(2, Graphs.ch(0, 1, 1, 1, 5, 5));
         Checks.due("analyze()", x.analyze(), SdfScheduler.V_OK);
         x.run(1);
         x.clear();
-        Checks.fill(x, 2, Checks.ch(1, 0, 8, 1));
-        SdfScheduler fresh = Checks.graph(2, Checks.ch(1, 0, 8, 1));
+        Graphs.fill(x, 2, Graphs.ch(1, 0, 8, 1));
+        SdfScheduler fresh = Graphs.graph(2, Graphs.ch(1, 0, 8, 1));
         Checks.due("analyze()", x.analyze(), SdfScheduler.V_OK);
         fresh.analyze();
         Checks.due("filled again", Checks.shown(x), Checks.shown(fresh));
@@ -33,7 +33,7 @@ public final class Promise02ClearTest {
     private static void tableSizesStay() {
         SdfScheduler x = new SdfScheduler(3, 2);
         for (int round = 0; round < 3; round++) {
-            Checks.fill(x, 3, Checks.ch(0, 1, 1, 1), Checks.ch(1, 2, 1, 1));
+            Graphs.fill(x, 3, Graphs.ch(0, 1, 1, 1), Graphs.ch(1, 2, 1, 1));
             Checks.due("addActor() when full", x.addActor(), -1);
             Checks.due("addChannel() when full", x.addChannel(0, 1, 1, 1), -1);
             x.clear();

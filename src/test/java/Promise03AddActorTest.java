@@ -11,8 +11,8 @@ public final class Promise03AddActorTest {
     private static void refusedChangesNothing() {
         SdfScheduler x = new SdfScheduler(2, 2);
         SdfScheduler twin = new SdfScheduler(2, 2);
-        Checks.fill(x, 2, Checks.ch(0, 1, 3, 2));
-        Checks.fill(twin, 2, Checks.ch(0, 1, 3, 2));
+        Graphs.fill(x, 2, Graphs.ch(0, 1, 3, 2));
+        Graphs.fill(twin, 2, Graphs.ch(0, 1, 3, 2));
         Checks.analyzeAndRun(x);
         Checks.due("verdict()", x.verdict(), SdfScheduler.V_OK);
         Checks.changesNothing("a refused addActor()", x, twin,
@@ -20,7 +20,7 @@ public final class Promise03AddActorTest {
     }
 
     private static void successDiscardsResults() {
-        SdfScheduler x = Checks.graph(2, Checks.ch(0, 1, 3, 2, 4, 20));
+        SdfScheduler x = Graphs.graph(2, Graphs.ch(0, 1, 3, 2, 4, 20));
         Checks.analyzeAndRun(x);
         Checks.due("addActor()", x.addActor(), 2);
         Checks.due("after addActor()", Checks.shown(x), Checks.shown(new SdfScheduler(2, 2)));

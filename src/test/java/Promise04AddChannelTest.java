@@ -1,7 +1,7 @@
 public final class Promise04AddChannelTest {
     private static SdfScheduler twoActors() {
         SdfScheduler x = new SdfScheduler(3, 4);
-        Checks.fill(x, 2, Checks.ch(0, 1, 3, 2, 1));
+        Graphs.fill(x, 2, Graphs.ch(0, 1, 3, 2, 1));
         return x;
     }
 
@@ -32,8 +32,8 @@ public final class Promise04AddChannelTest {
     private static void fullTableRefuses() {
         SdfScheduler x = new SdfScheduler(2, 2);
         SdfScheduler twin = new SdfScheduler(2, 2);
-        Checks.fill(x, 2, Checks.ch(0, 1, 1, 1), Checks.ch(1, 0, 1, 1, 1));
-        Checks.fill(twin, 2, Checks.ch(0, 1, 1, 1), Checks.ch(1, 0, 1, 1, 1));
+        Graphs.fill(x, 2, Graphs.ch(0, 1, 1, 1), Graphs.ch(1, 0, 1, 1, 1));
+        Graphs.fill(twin, 2, Graphs.ch(0, 1, 1, 1), Graphs.ch(1, 0, 1, 1, 1));
         Checks.analyzeAndRun(x);
         Checks.changesNothing("addChannel() when full", x, twin,
             () -> Checks.due("addChannel(0, 1, 1, 1)", x.addChannel(0, 1, 1, 1), -1));
@@ -42,7 +42,7 @@ public final class Promise04AddChannelTest {
     private static void everyRateIsTaken() {
         for (int prod = 1; prod <= 8; prod++) {
             for (int cons = 1; cons <= 8; cons++) {
-                SdfScheduler x = Checks.graph(2, Checks.ch(0, 1, prod, cons));
+                SdfScheduler x = Graphs.graph(2, Graphs.ch(0, 1, prod, cons));
                 Checks.due("analyze()", x.analyze(), SdfScheduler.V_OK);
                 Checks.due("balance", x.repetitions(0) * prod, x.repetitions(1) * cons);
                 x.run(1);

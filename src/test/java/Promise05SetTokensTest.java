@@ -1,6 +1,6 @@
 public final class Promise05SetTokensTest {
     private static SdfScheduler twoChannels() {
-        return Checks.graph(3, Checks.ch(0, 1, 1, 1, 2, 6), Checks.ch(1, 2, 2, 1));
+        return Graphs.graph(3, Graphs.ch(0, 1, 1, 1, 2, 6), Graphs.ch(1, 2, 2, 1));
     }
 
     private static void refused(int ch, int n) {

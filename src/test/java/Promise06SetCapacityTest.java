@@ -1,6 +1,6 @@
 public final class Promise06SetCapacityTest {
     private static SdfScheduler twoChannels() {
-        return Checks.graph(3, Checks.ch(0, 1, 1, 1, 4), Checks.ch(1, 2, 2, 1, 0, 9));
+        return Graphs.graph(3, Graphs.ch(0, 1, 1, 1, 4), Graphs.ch(1, 2, 2, 1, 0, 9));
     }
 
     private static void refused(int ch, int cap) {
@@ -48,7 +48,7 @@ public final class Promise06SetCapacityTest {
     }
 
     private static void capacityHoldsAndZeroFrees() {
-        SdfScheduler x = Checks.graph(2, Checks.ch(0, 1, 1, 8));
+        SdfScheduler x = Graphs.graph(2, Graphs.ch(0, 1, 1, 8));
         x.analyze();
         Checks.due("bound(0)", x.bound(0), 8);
         x.setCapacity(0, 7);

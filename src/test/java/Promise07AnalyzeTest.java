@@ -1,17 +1,4 @@
 public final class Promise07AnalyzeTest {
-    /** Six actors whose repetitions 1, 8, 64, 128, 48 and 7 sum to 256. */
-    static final int[][] PERIOD_OF_256 = {
-        {0, 1, 8, 1}, {1, 2, 8, 1}, {2, 3, 2, 1}, {1, 4, 6, 1}, {0, 5, 7, 1}};
-
-    static SdfScheduler selfLoops(int number, int tokens) {
-        SdfScheduler x = Checks.graph(1);
-        for (int c = 0; c < number; c++) {
-            x.addChannel(0, 0, 1, 1);
-            x.setTokens(c, tokens);
-        }
-        return x;
-    }
-
     private static void analyzed(String what, SdfScheduler x, int verdict) {
         Checks.due("analyze() of " + what, x.analyze(), verdict);
         Checks.due("verdict() of " + what, x.verdict(), verdict);
@@ -22,51 +9,51 @@ public final class Promise07AnalyzeTest {
     }
 
     private static void consistency() {
-        analyzed("no actor", Checks.graph(0), SdfScheduler.V_EMPTY);
-        analyzed("one actor", Checks.graph(1), SdfScheduler.V_OK);
-        analyzed("ten lone actors", Checks.graph(10), SdfScheduler.V_OK);
+        analyzed("no actor", Graphs.graph(0), SdfScheduler.V_EMPTY);
+        analyzed("one actor", Graphs.graph(1), SdfScheduler.V_OK);
+        analyzed("ten lone actors", Graphs.graph(10), SdfScheduler.V_OK);
         analyzed("parallel channels that differ",
-            Checks.graph(2, Checks.ch(0, 1, 1, 1), Checks.ch(0, 1, 1, 2)), SdfScheduler.V_INCONSISTENT);
+            Graphs.graph(2, Graphs.ch(0, 1, 1, 1), Graphs.ch(0, 1, 1, 2)), SdfScheduler.V_INCONSISTENT);
         analyzed("parallel channels that agree",
-            Checks.graph(2, Checks.ch(0, 1, 3, 2), Checks.ch(0, 1, 6, 4)), SdfScheduler.V_OK);
+            Graphs.graph(2, Graphs.ch(0, 1, 3, 2), Graphs.ch(0, 1, 6, 4)), SdfScheduler.V_OK);
         analyzed("a self-loop that gains",
-            Checks.graph(1, Checks.ch(0, 0, 2, 1, 5)), SdfScheduler.V_INCONSISTENT);
+            Graphs.graph(1, Graphs.ch(0, 0, 2, 1, 5)), SdfScheduler.V_INCONSISTENT);
         analyzed("a self-loop that loses",
-            Checks.graph(1, Checks.ch(0, 0, 1, 2, 5)), SdfScheduler.V_INCONSISTENT);
+            Graphs.graph(1, Graphs.ch(0, 0, 1, 2, 5)), SdfScheduler.V_INCONSISTENT);
         analyzed("an inconsistent triangle",
-            Checks.graph(3, Checks.ch(0, 1, 1, 2), Checks.ch(1, 2, 1, 2), Checks.ch(0, 2, 1, 3)),
+            Graphs.graph(3, Graphs.ch(0, 1, 1, 2), Graphs.ch(1, 2, 1, 2), Graphs.ch(0, 2, 1, 3)),
             SdfScheduler.V_INCONSISTENT);
         analyzed("a consistent triangle",
-            Checks.graph(3, Checks.ch(0, 1, 1, 2), Checks.ch(1, 2, 1, 2), Checks.ch(0, 2, 1, 4)),
+            Graphs.graph(3, Graphs.ch(0, 1, 1, 2), Graphs.ch(1, 2, 1, 2), Graphs.ch(0, 2, 1, 4)),
             SdfScheduler.V_OK);
         analyzed("a second part that is inconsistent",
-            Checks.graph(4, Checks.ch(0, 1, 1, 1), Checks.ch(2, 3, 1, 1), Checks.ch(3, 2, 2, 1, 9)),
+            Graphs.graph(4, Graphs.ch(0, 1, 1, 1), Graphs.ch(2, 3, 1, 1), Graphs.ch(3, 2, 2, 1, 9)),
             SdfScheduler.V_INCONSISTENT);
     }
 
     private static void lengthLimit() {
-        SdfScheduler x = Checks.graph(6, PERIOD_OF_256);
+        SdfScheduler x = Graphs.graph(6, Graphs.PERIOD_OF_256);
         Checks.due("analyze() with Q 256, bounds aside", x.analyze() != SdfScheduler.V_TOO_LONG, true);
         Checks.due("scheduleLength()", x.scheduleLength(), 256);
         x.addActor();
         analyzed("Q 257", x, SdfScheduler.V_TOO_LONG);
         Checks.due("scheduleLength()", x.scheduleLength(), 0);
-        SdfScheduler two = Checks.graph(4, Checks.ch(0, 1, 8, 1), Checks.ch(1, 2, 8, 1), Checks.ch(2, 3, 8, 1));
+        SdfScheduler two = Graphs.graph(4, Graphs.ch(0, 1, 8, 1), Graphs.ch(1, 2, 8, 1), Graphs.ch(2, 3, 8, 1));
         analyzed("Q 585", two, SdfScheduler.V_TOO_LONG);
     }
 
     private static void storeLimit() {
-        analyzed("bounds of 512", selfLoops(16, 32), SdfScheduler.V_OK);
-        SdfScheduler x = selfLoops(17, 32);
+        analyzed("bounds of 512", Graphs.selfLoops(16, 32), SdfScheduler.V_OK);
+        SdfScheduler x = Graphs.selfLoops(17, 32);
         x.setTokens(16, 1);
         analyzed("bounds of 513", x, SdfScheduler.V_TOO_BIG);
-        analyzed("bounds of 768", selfLoops(24, 32), SdfScheduler.V_TOO_BIG);
+        analyzed("bounds of 768", Graphs.selfLoops(24, 32), SdfScheduler.V_TOO_BIG);
     }
 
     /** A chain whose last channel alone fills up to 8 * 64 tokens before its reader may fire. */
     private static void storeLimitOnOneChannel() {
-        SdfScheduler x = Checks.graph(4,
-            Checks.ch(0, 1, 8, 1, 0, 8), Checks.ch(1, 2, 8, 1, 0, 64), Checks.ch(2, 3, 8, 8));
+        SdfScheduler x = Graphs.graph(4,
+            Graphs.ch(0, 1, 8, 1, 0, 8), Graphs.ch(1, 2, 8, 1, 0, 64), Graphs.ch(2, 3, 8, 8));
         Checks.due("analyze()", x.analyze(), SdfScheduler.V_TOO_BIG);
         Checks.due("bound(2)", x.bound(2), 512);
         Checks.due("bound(1)", x.bound(1), 64);
@@ -74,34 +61,34 @@ public final class Promise07AnalyzeTest {
 
     private static void deadlocks() {
         analyzed("a cycle without tokens",
-            Checks.graph(2, Checks.ch(0, 1, 1, 1), Checks.ch(1, 0, 1, 1)), SdfScheduler.V_DEADLOCK);
+            Graphs.graph(2, Graphs.ch(0, 1, 1, 1), Graphs.ch(1, 0, 1, 1)), SdfScheduler.V_DEADLOCK);
         analyzed("a cycle with a token",
-            Checks.graph(2, Checks.ch(0, 1, 1, 1), Checks.ch(1, 0, 1, 1, 1)), SdfScheduler.V_OK);
+            Graphs.graph(2, Graphs.ch(0, 1, 1, 1), Graphs.ch(1, 0, 1, 1, 1)), SdfScheduler.V_OK);
         analyzed("a cycle one token short",
-            Checks.graph(2, Checks.ch(0, 1, 2, 3), Checks.ch(1, 0, 3, 2, 3)), SdfScheduler.V_DEADLOCK);
+            Graphs.graph(2, Graphs.ch(0, 1, 2, 3), Graphs.ch(1, 0, 3, 2, 3)), SdfScheduler.V_DEADLOCK);
         analyzed("a cycle with just enough",
-            Checks.graph(2, Checks.ch(0, 1, 2, 3), Checks.ch(1, 0, 3, 2, 4)), SdfScheduler.V_OK);
-        analyzed("a self-loop without tokens", Checks.graph(1, Checks.ch(0, 0, 1, 1)), SdfScheduler.V_DEADLOCK);
+            Graphs.graph(2, Graphs.ch(0, 1, 2, 3), Graphs.ch(1, 0, 3, 2, 4)), SdfScheduler.V_OK);
+        analyzed("a self-loop without tokens", Graphs.graph(1, Graphs.ch(0, 0, 1, 1)), SdfScheduler.V_DEADLOCK);
         analyzed("a self-loop at its capacity",
-            Checks.graph(1, Checks.ch(0, 0, 1, 1, 1, 1)), SdfScheduler.V_DEADLOCK);
+            Graphs.graph(1, Graphs.ch(0, 0, 1, 1, 1, 1)), SdfScheduler.V_DEADLOCK);
         analyzed("a self-loop with room",
-            Checks.graph(1, Checks.ch(0, 0, 1, 1, 1, 2)), SdfScheduler.V_OK);
+            Graphs.graph(1, Graphs.ch(0, 0, 1, 1, 1, 2)), SdfScheduler.V_OK);
         analyzed("a capacity too small",
-            Checks.graph(2, Checks.ch(0, 1, 2, 3, 0, 3)), SdfScheduler.V_DEADLOCK);
+            Graphs.graph(2, Graphs.ch(0, 1, 2, 3, 0, 3)), SdfScheduler.V_DEADLOCK);
         analyzed("a capacity large enough",
-            Checks.graph(2, Checks.ch(0, 1, 2, 3, 0, 4)), SdfScheduler.V_OK);
+            Graphs.graph(2, Graphs.ch(0, 1, 2, 3, 0, 4)), SdfScheduler.V_OK);
         analyzed("a second part that stops",
-            Checks.graph(3, Checks.ch(0, 1, 1, 1), Checks.ch(2, 2, 1, 1)), SdfScheduler.V_DEADLOCK);
+            Graphs.graph(3, Graphs.ch(0, 1, 1, 1), Graphs.ch(2, 2, 1, 1)), SdfScheduler.V_DEADLOCK);
     }
 
     /** Where two verdicts would fit, the earlier test answers. */
     private static void orderOfTests() {
-        SdfScheduler x = Checks.graph(7, PERIOD_OF_256);
+        SdfScheduler x = Graphs.tooLong();
         x.addChannel(6, 6, 1, 1);
         analyzed("too long and stopping", x, SdfScheduler.V_TOO_LONG);
         x.addChannel(6, 6, 1, 2);
         analyzed("inconsistent and too long", x, SdfScheduler.V_INCONSISTENT);
-        SdfScheduler y = selfLoops(20, 32);
+        SdfScheduler y = Graphs.selfLoops(20, 32);
         y.addChannel(0, 0, 1, 1);
         analyzed("stopping and too big", y, SdfScheduler.V_DEADLOCK);
         y.addChannel(0, 0, 1, 2);
@@ -122,7 +109,7 @@ public final class Promise07AnalyzeTest {
 
     /** On one object, so that what an earlier verdict left behind would show. */
     private static void whatEachVerdictShows() {
-        SdfScheduler x = Checks.graph(2, Checks.ch(0, 1, 1, 1, 1));
+        SdfScheduler x = Graphs.graph(2, Graphs.ch(0, 1, 1, 1, 1));
         available("V_OK", x, true, true, true);
         x.addChannel(1, 0, 1, 1);
         x.addActor();
@@ -150,7 +137,7 @@ public final class Promise07AnalyzeTest {
     }
 
     private static void executorIsReset() {
-        SdfScheduler x = Checks.graph(2, Checks.ch(0, 1, 2, 3, 4), Checks.ch(1, 1, 1, 1, 1));
+        SdfScheduler x = Graphs.graph(2, Graphs.ch(0, 1, 2, 3, 4), Graphs.ch(1, 1, 1, 1, 1));
         x.analyze();
         String fresh = Checks.shown(x);
         Checks.due("run(13)", x.run(13), 2);

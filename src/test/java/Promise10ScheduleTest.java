@@ -10,25 +10,25 @@ public final class Promise10ScheduleTest {
     }
 
     private static void leastEnabledFirst() {
-        schedule(Checks.graph(3), SdfScheduler.V_OK, 3, "0 1 2");
-        schedule(Checks.graph(2, Checks.ch(0, 1, 2, 3)), SdfScheduler.V_OK, 5, "0 0 0 1 1");
-        schedule(Checks.graph(2, Checks.ch(0, 1, 2, 3, 0, 4)), SdfScheduler.V_OK, 5, "0 0 1 0 1");
-        schedule(Checks.graph(2, Checks.ch(1, 0, 2, 3)), SdfScheduler.V_OK, 5, "1 1 0 1 0");
-        schedule(Checks.graph(2, Checks.ch(1, 0, 2, 3, 6)), SdfScheduler.V_OK, 5, "0 0 1 1 1");
-        schedule(Checks.graph(3, Checks.ch(2, 1, 1, 2), Checks.ch(1, 0, 1, 2)), SdfScheduler.V_OK, 7,
+        schedule(Graphs.graph(3), SdfScheduler.V_OK, 3, "0 1 2");
+        schedule(Graphs.graph(2, Graphs.ch(0, 1, 2, 3)), SdfScheduler.V_OK, 5, "0 0 0 1 1");
+        schedule(Graphs.graph(2, Graphs.ch(0, 1, 2, 3, 0, 4)), SdfScheduler.V_OK, 5, "0 0 1 0 1");
+        schedule(Graphs.graph(2, Graphs.ch(1, 0, 2, 3)), SdfScheduler.V_OK, 5, "1 1 0 1 0");
+        schedule(Graphs.graph(2, Graphs.ch(1, 0, 2, 3, 6)), SdfScheduler.V_OK, 5, "0 0 1 1 1");
+        schedule(Graphs.graph(3, Graphs.ch(2, 1, 1, 2), Graphs.ch(1, 0, 1, 2)), SdfScheduler.V_OK, 7,
             "2 2 1 2 2 1 0");
-        schedule(Checks.graph(3, Checks.ch(0, 1, 1, 1), Checks.ch(1, 2, 1, 1), Checks.ch(2, 0, 1, 1, 1)),
+        schedule(Graphs.graph(3, Graphs.ch(0, 1, 1, 1), Graphs.ch(1, 2, 1, 1), Graphs.ch(2, 0, 1, 1, 1)),
             SdfScheduler.V_OK, 3, "0 1 2");
     }
 
     private static void withEachVerdict() {
-        schedule(Checks.graph(1, Checks.ch(0, 0, 1, 1)), SdfScheduler.V_DEADLOCK, 0, "");
-        schedule(Checks.graph(2, Checks.ch(0, 1, 2, 3, 0, 3)), SdfScheduler.V_DEADLOCK, 1, "0");
-        schedule(Checks.graph(3, Checks.ch(0, 0, 1, 1), Checks.ch(1, 2, 1, 2)), SdfScheduler.V_DEADLOCK, 3, "1 1 2");
-        schedule(Promise07AnalyzeTest.selfLoops(17, 32), SdfScheduler.V_TOO_BIG, 1, "0");
-        schedule(Checks.graph(7, Promise07AnalyzeTest.PERIOD_OF_256), SdfScheduler.V_TOO_LONG, 0, "");
-        schedule(Checks.graph(0), SdfScheduler.V_EMPTY, 0, "");
-        SdfScheduler x = Checks.graph(2, Checks.ch(0, 1, 1, 1));
+        schedule(Graphs.graph(1, Graphs.ch(0, 0, 1, 1)), SdfScheduler.V_DEADLOCK, 0, "");
+        schedule(Graphs.graph(2, Graphs.ch(0, 1, 2, 3, 0, 3)), SdfScheduler.V_DEADLOCK, 1, "0");
+        schedule(Graphs.graph(3, Graphs.ch(0, 0, 1, 1), Graphs.ch(1, 2, 1, 2)), SdfScheduler.V_DEADLOCK, 3, "1 1 2");
+        schedule(Graphs.tooBig(), SdfScheduler.V_TOO_BIG, 1, "0");
+        schedule(Graphs.tooLong(), SdfScheduler.V_TOO_LONG, 0, "");
+        schedule(Graphs.graph(0), SdfScheduler.V_EMPTY, 0, "");
+        SdfScheduler x = Graphs.graph(2, Graphs.ch(0, 1, 1, 1));
         Checks.due("scheduleLength() before analyze()", x.scheduleLength(), 0);
         Checks.due("scheduleAt(0) before analyze()", x.scheduleAt(0), -1);
         x.analyze();
@@ -40,7 +40,7 @@ public final class Promise10ScheduleTest {
     }
 
     private static void theLongest() {
-        SdfScheduler x = Checks.graph(6, Promise07AnalyzeTest.PERIOD_OF_256);
+        SdfScheduler x = Graphs.graph(6, Graphs.PERIOD_OF_256);
         StringBuilder due = new StringBuilder("0");
         int[] repetitions = {1, 8, 64, 128, 48, 7};
         for (int a = 1; a < 6; a++) {

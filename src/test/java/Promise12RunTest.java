@@ -1,6 +1,6 @@
 public final class Promise12RunTest {
     private static SdfScheduler running() {
-        SdfScheduler x = Checks.graph(2, Checks.ch(0, 1, 2, 3, 1), Checks.ch(1, 0, 3, 2, 6, 7));
+        SdfScheduler x = Graphs.graph(2, Graphs.ch(0, 1, 2, 3, 1), Graphs.ch(1, 0, 3, 2, 6, 7));
         Checks.due("analyze()", x.analyze(), SdfScheduler.V_OK);
         return x;
     }
@@ -30,13 +30,7 @@ public final class Promise12RunTest {
     }
 
     private static void otherVerdictsAreRefused() {
-        SdfScheduler[] all = {
-            Checks.graph(0),
-            Checks.graph(1, Checks.ch(0, 0, 1, 2)),
-            Checks.graph(7, Promise07AnalyzeTest.PERIOD_OF_256),
-            Checks.graph(2, Checks.ch(1, 1, 1, 1)),
-            Promise07AnalyzeTest.selfLoops(17, 32)};
-        for (SdfScheduler x : all) {
+        for (SdfScheduler x : Graphs.withoutExecutor()) {
             Checks.due("run(1) before analyze()", x.run(1), -1);
             x.analyze();
             String before = Checks.shown(x);
@@ -50,7 +44,7 @@ public final class Promise12RunTest {
 
     /** Values told step by step, after the document's Terms. */
     private static void oneStepAfterAnother() {
-        SdfScheduler x = Checks.graph(2, Checks.ch(0, 1, 2, 3), Checks.ch(1, 0, 3, 2, 4));
+        SdfScheduler x = Graphs.graph(2, Graphs.ch(0, 1, 2, 3), Graphs.ch(1, 0, 3, 2, 4));
         Checks.due("analyze()", x.analyze(), SdfScheduler.V_OK);
         Checks.due("schedule", Checks.schedule(x), "0 0 1 0 1");
         x.run(1);
@@ -71,8 +65,8 @@ public final class Promise12RunTest {
     }
 
     private static void staysWithinBounds() {
-        SdfScheduler x = Checks.graph(3,
-            Checks.ch(0, 1, 2, 3, 1, 7), Checks.ch(1, 0, 3, 2, 6), Checks.ch(1, 2, 5, 2, 3), Checks.ch(2, 2, 1, 1, 4));
+        SdfScheduler x = Graphs.graph(3,
+            Graphs.ch(0, 1, 2, 3, 1, 7), Graphs.ch(1, 0, 3, 2, 6), Graphs.ch(1, 2, 5, 2, 3), Graphs.ch(2, 2, 1, 1, 4));
         Checks.due("analyze()", x.analyze(), SdfScheduler.V_OK);
         int[] init = {1, 6, 3, 4};
         String schedule = Checks.schedule(x);

@@ -1,7 +1,7 @@
 /** Periods and firings wrap around: 2 to the power of 31 steps of a lone actor, some seconds of work. */
 public final class Promise12WrapTest {
     public static void main(String[] args) {
-        SdfScheduler x = Checks.graph(1);
+        SdfScheduler x = Graphs.graph(1);
         Checks.due("analyze()", x.analyze(), SdfScheduler.V_OK);
         int calls = 1 << 23;
         for (int i = 1; i < calls; i++) {

@@ -1,6 +1,6 @@
 public final class Promise13PositionTest {
     private static void goesRound() {
-        SdfScheduler x = Checks.graph(2, Checks.ch(0, 1, 2, 3));
+        SdfScheduler x = Graphs.graph(2, Graphs.ch(0, 1, 2, 3));
         Checks.due("position() before analyze()", x.position(), -1);
         x.analyze();
         for (int i = 0; i < 25; i++) {
@@ -15,7 +15,7 @@ public final class Promise13PositionTest {
     }
 
     private static void aPeriodOfOne() {
-        SdfScheduler x = Checks.graph(1);
+        SdfScheduler x = Graphs.graph(1);
         x.analyze();
         Checks.due("position()", x.position(), 0);
         Checks.due("run(7)", x.run(7), 7);
@@ -23,7 +23,7 @@ public final class Promise13PositionTest {
     }
 
     private static void aPeriodOf256() {
-        SdfScheduler x = Checks.graph(6, Promise07AnalyzeTest.PERIOD_OF_256);
+        SdfScheduler x = Graphs.graph(6, Graphs.PERIOD_OF_256);
         Checks.due("analyze()", x.analyze(), SdfScheduler.V_OK);
         Checks.due("run(255)", x.run(255), 0);
         Checks.due("position()", x.position(), 255);
@@ -34,17 +34,11 @@ public final class Promise13PositionTest {
     }
 
     private static void withOtherVerdicts() {
-        SdfScheduler[] all = {
-            Checks.graph(0),
-            Checks.graph(1, Checks.ch(0, 0, 1, 2)),
-            Checks.graph(7, Promise07AnalyzeTest.PERIOD_OF_256),
-            Checks.graph(2, Checks.ch(1, 1, 1, 1)),
-            Promise07AnalyzeTest.selfLoops(17, 32)};
-        for (SdfScheduler x : all) {
+        for (SdfScheduler x : Graphs.withoutExecutor()) {
             x.analyze();
             Checks.due("position() with verdict " + x.verdict(), x.position(), -1);
         }
-        SdfScheduler x = Checks.graph(2);
+        SdfScheduler x = Graphs.graph(2);
         x.analyze();
         x.addActor();
         Checks.due("position() after an edit", x.position(), -1);

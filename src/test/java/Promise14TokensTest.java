@@ -1,6 +1,6 @@
 public final class Promise14TokensTest {
     private static void initialTokensAreZeros() {
-        SdfScheduler x = Checks.graph(2, Checks.ch(0, 1, 1, 1, 3), Checks.ch(1, 0, 1, 1, 32));
+        SdfScheduler x = Graphs.graph(2, Graphs.ch(0, 1, 1, 1, 3), Graphs.ch(1, 0, 1, 1, 32));
         x.analyze();
         x.run(256);
         x.analyze();
@@ -9,7 +9,7 @@ public final class Promise14TokensTest {
     }
 
     private static void headAndTail() {
-        SdfScheduler x = Checks.graph(2, Checks.ch(0, 1, 1, 1, 2));
+        SdfScheduler x = Graphs.graph(2, Graphs.ch(0, 1, 1, 1, 2));
         x.analyze();
         Checks.due("schedule", Checks.schedule(x), "0 1");
         x.run(1);
@@ -28,8 +28,8 @@ public final class Promise14TokensTest {
 
     /** Both channels into actor 1 add to its sum, and a self-loop gives back what it took. */
     private static void sumOverInputs() {
-        SdfScheduler x = Checks.graph(3,
-            Checks.ch(0, 1, 2, 2), Checks.ch(0, 1, 1, 1, 1), Checks.ch(1, 1, 1, 1, 1), Checks.ch(1, 2, 1, 1));
+        SdfScheduler x = Graphs.graph(3,
+            Graphs.ch(0, 1, 2, 2), Graphs.ch(0, 1, 1, 1, 1), Graphs.ch(1, 1, 1, 1, 1), Graphs.ch(1, 2, 1, 1));
         x.analyze();
         Checks.due("run(2)", x.run(2), 0);
         Checks.due("31 * (1 + 1 + 0 + 0) + 0 + 1", Checks.tokens(x, 3), "63");
@@ -40,7 +40,7 @@ public final class Promise14TokensTest {
     }
 
     private static void valuesWrapAround() {
-        SdfScheduler x = Checks.graph(1, Checks.ch(0, 0, 3, 3, 3));
+        SdfScheduler x = Graphs.graph(1, Graphs.ch(0, 0, 3, 3, 3));
         x.analyze();
         int value = 0;
         for (int i = 0; i < 1000; i++) {
@@ -52,7 +52,7 @@ public final class Promise14TokensTest {
     }
 
     private static void wrongArguments() {
-        SdfScheduler x = Checks.graph(1, Checks.ch(0, 0, 1, 1, 1));
+        SdfScheduler x = Graphs.graph(1, Graphs.ch(0, 0, 1, 1, 1));
         x.analyze();
         x.run(1);
         Checks.due("tokenValue(0, 0)", x.tokenValue(0, 0), 1);
@@ -69,7 +69,7 @@ public final class Promise14TokensTest {
 
     /** The place behind the tail still has what was taken from it before: it must not show. */
     private static void takenTokensAreGone() {
-        SdfScheduler x = Checks.graph(2, Checks.ch(0, 1, 1, 1));
+        SdfScheduler x = Graphs.graph(2, Graphs.ch(0, 1, 1, 1));
         x.analyze();
         x.run(1);
         Checks.due("tokenValue(0, 0)", x.tokenValue(0, 0), 1);
@@ -81,7 +81,7 @@ public final class Promise14TokensTest {
     }
 
     private static void withOtherVerdicts() {
-        SdfScheduler x = Checks.graph(1, Checks.ch(0, 0, 1, 1, 1));
+        SdfScheduler x = Graphs.graph(1, Graphs.ch(0, 0, 1, 1, 1));
         Checks.due("tokenCount(0) before analyze()", x.tokenCount(0), -1);
         x.analyze();
         x.run(1);
@@ -91,13 +91,13 @@ public final class Promise14TokensTest {
         Checks.due("analyze()", x.analyze(), SdfScheduler.V_DEADLOCK);
         Checks.due("tokenCount(0) with V_DEADLOCK", x.tokenCount(0), -1);
         Checks.due("tokenValue(0, 0) with V_DEADLOCK", x.tokenValue(0, 0), 0);
-        SdfScheduler big = Promise07AnalyzeTest.selfLoops(17, 32);
+        SdfScheduler big = Graphs.tooBig();
         big.analyze();
         Checks.due("tokenCount(0) with V_TOO_BIG", big.tokenCount(0), -1);
     }
 
     private static void aLongQueue() {
-        SdfScheduler x = Checks.graph(6, Promise07AnalyzeTest.PERIOD_OF_256);
+        SdfScheduler x = Graphs.graph(6, Graphs.PERIOD_OF_256);
         Checks.due("analyze()", x.analyze(), SdfScheduler.V_OK);
         x.run(1 + 8 + 64);
         Checks.due("tokenCount(2)", x.tokenCount(2), 128);

@@ -1,6 +1,6 @@
 public final class Promise15FiredTest {
     private static void countsFirings() {
-        SdfScheduler x = Checks.graph(3, Checks.ch(0, 1, 2, 3));
+        SdfScheduler x = Graphs.graph(3, Graphs.ch(0, 1, 2, 3));
         Checks.due("fired(0) before analyze()", x.fired(0), -1);
         x.analyze();
         Checks.due("schedule", Checks.schedule(x), "0 0 0 1 1 2");
@@ -25,7 +25,7 @@ public final class Promise15FiredTest {
     }
 
     private static void wrongArguments() {
-        SdfScheduler x = Checks.graph(2);
+        SdfScheduler x = Graphs.graph(2);
         x.analyze();
         x.run(2);
         int[] wrong = {-1, 2, 9, 10, Integer.MIN_VALUE, Integer.MAX_VALUE};
@@ -36,17 +36,11 @@ public final class Promise15FiredTest {
     }
 
     private static void withOtherVerdicts() {
-        SdfScheduler[] all = {
-            Checks.graph(0),
-            Checks.graph(1, Checks.ch(0, 0, 1, 2)),
-            Checks.graph(7, Promise07AnalyzeTest.PERIOD_OF_256),
-            Checks.graph(2, Checks.ch(1, 1, 1, 1)),
-            Promise07AnalyzeTest.selfLoops(17, 32)};
-        for (SdfScheduler x : all) {
+        for (SdfScheduler x : Graphs.withoutExecutor()) {
             x.analyze();
             Checks.due("fired(0) with verdict " + x.verdict(), x.fired(0), -1);
         }
-        SdfScheduler x = Checks.graph(2);
+        SdfScheduler x = Graphs.graph(2);
         x.analyze();
         x.run(1);
         x.addActor();
