@@ -51,11 +51,26 @@ public final class Promise03EdgesTest {
         }
     }
 
+    /** "Existing actors and channels are unchanged": all 24 of them, whether the call is taken or refused. */
+    private static void besideAFullTableOfChannels() {
+        SdfScheduler x = Graphs.selfLoops(24, 2);
+        for (int a = 1; a <= 11; a++) {
+            Checks.due("addActor()", x.addActor(), a < 10 ? a : -1);
+            Checks.due("addChannel() of a full table", x.addChannel(0, 0, 1, 1), -1);
+            Checks.due("setTokens(23, 2)", x.setTokens(23, 2), true);
+            Checks.due("setTokens(24, 2)", x.setTokens(24, 2), false);
+        }
+        Checks.due("analyze()", x.analyze(), SdfScheduler.V_OK);
+        Checks.due("addActor()", x.addActor(), -1);
+        Checks.due("bound(23)", x.bound(23), 2);
+    }
+
     public static void main(String[] args) {
         lastPlaceOfEveryTable();
         refusedWithEveryVerdict();
         takenWithEveryVerdict();
         newActorHasNoChannels();
+        besideAFullTableOfChannels();
         Checks.finish();
     }
 }

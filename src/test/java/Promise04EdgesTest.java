@@ -1,3 +1,5 @@
+import java.util.Arrays;
+
 /** The edges of promise 4, each sentence on its own. */
 public final class Promise04EdgesTest {
     private static String call(int src, int dst, int prod, int cons) {
@@ -77,7 +79,7 @@ public final class Promise04EdgesTest {
     }
 
     private static int[][] withOneMore(int[][] channels, int... one) {
-        int[][] all = java.util.Arrays.copyOf(channels, channels.length + 1);
+        int[][] all = Arrays.copyOf(channels, channels.length + 1);
         all[channels.length] = one;
         return all;
     }
@@ -113,6 +115,38 @@ public final class Promise04EdgesTest {
         Checks.due("tokenCount(0)", z.tokenCount(0), 0);
     }
 
+    /** The same where a channel of that number had tokens and a capacity before clear(). */
+    private static void startsAnewAfterClear() {
+        SdfScheduler x = Graphs.graph(2, Graphs.ch(0, 1, 1, 1, 5, 6), Graphs.ch(0, 1, 1, 1, 7, 8));
+        x.clear();
+        Graphs.fill(x, 2, Graphs.ch(0, 1, 8, 8), Graphs.ch(0, 1, 8, 8));
+        Checks.due("analyze()", x.analyze(), SdfScheduler.V_OK);
+        Checks.due("tokenCount(0)", x.tokenCount(0), 0);
+        Checks.due("tokenCount(1)", x.tokenCount(1), 0);
+        Checks.due("setTokens(0, 32)", x.setTokens(0, 32), true);
+        Checks.due("setTokens(1, 32)", x.setTokens(1, 32), true);
+    }
+
+    /** "Existing actors and channels are unchanged", as calls are taken and refused up to a full table. */
+    private static void existingChannelsStay() {
+        SdfScheduler x = Graphs.graph(1);
+        for (int c = 0; c < 24; c++) {
+            Checks.due("addChannel()", x.addChannel(0, 0, 1, 1), c);
+            Checks.due("setTokens()", x.setTokens(c, c % 20 + 1), true);
+            Checks.due("setCapacity()", x.setCapacity(c, c % 20 + 2), true);
+            Checks.due("a refused addChannel()", x.addChannel(0, 0, 1, 9), -1);
+        }
+        Checks.due("addChannel() of a full table", x.addChannel(0, 0, 1, 1), -1);
+        Checks.due("analyze()", x.analyze(), SdfScheduler.V_OK);
+        for (int c = 0; c < 24; c++) {
+            Checks.due("tokenCount(" + c + ")", x.tokenCount(c), c % 20 + 1);
+        }
+        for (int c = 0; c < 24; c++) {
+            Checks.due("setTokens() above the capacity of " + c, x.setTokens(c, c % 20 + 3), false);
+            Checks.due("setTokens() up to the capacity of " + c, x.setTokens(c, c % 20 + 2), true);
+        }
+    }
+
     public static void main(String[] args) {
         lastPlaceOfEveryTable();
         lastActorAndTheNext();
@@ -120,6 +154,8 @@ public final class Promise04EdgesTest {
         everySetOfRefusals();
         takenWithEveryVerdict();
         startsEmptyAndUnbounded();
+        startsAnewAfterClear();
+        existingChannelsStay();
         Checks.finish();
     }
 }

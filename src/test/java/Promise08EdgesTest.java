@@ -21,7 +21,7 @@ public final class Promise08EdgesTest {
     /** "It changes nothing", whatever the verdict. */
     private static void changesNothing() {
         for (int verdict : States.ALL) {
-            States.unchanged("verdict()", verdict, x -> {
+            States.asked("verdict()", verdict, x -> {
                 for (int i = 0; i < 5; i++) {
                     Checks.due("verdict()", x.verdict(), verdict);
                 }

@@ -92,7 +92,7 @@ public final class Promise09EdgesTest {
     /** "The call changes nothing." */
     private static void changesNothing() {
         for (int verdict : States.ALL) {
-            States.unchanged("repetitions()", verdict, x -> {
+            States.asked("repetitions()", verdict, x -> {
                 for (int a : States.FAR_OFF) {
                     x.repetitions(a);
                 }

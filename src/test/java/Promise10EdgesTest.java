@@ -111,7 +111,7 @@ public final class Promise10EdgesTest {
     /** "Both calls change nothing." */
     private static void changesNothing() {
         for (int verdict : States.ALL) {
-            States.unchanged("scheduleLength() and scheduleAt()", verdict, x -> {
+            States.asked("scheduleLength() and scheduleAt()", verdict, x -> {
                 x.scheduleLength();
                 for (int i : States.FAR_OFF) {
                     x.scheduleAt(i);

@@ -97,7 +97,7 @@ public final class Promise11EdgesTest {
     /** "The call changes nothing." */
     private static void changesNothing() {
         for (int verdict : States.ALL) {
-            States.unchanged("bound()", verdict, x -> {
+            States.asked("bound()", verdict, x -> {
                 for (int ch : States.FAR_OFF) {
                     x.bound(ch);
                 }

@@ -9,8 +9,17 @@ public final class Promise12EdgesTest {
         {{1, 0, 7, 8, 32, 32}, {1, 0, 7, 8, 32}},
         {{0, 1, 8, 1, 0, 8}, {1, 2, 8, 1, 0, 64}, {2, 3, 1, 1, 0, 1}},
         {{0, 1, 8, 1, 24}, {1, 2, 8, 1}, {2, 3, 6, 6, 32}},
-        {{1, 0, 1, 8}, {2, 1, 1, 8}, {3, 2, 1, 2}, {4, 1, 1, 6}, {5, 0, 1, 7}}};
-    private static final int[] ACTORS = {10, 1, 1, 2, 2, 4, 4, 6};
+        {{1, 0, 1, 8}, {2, 1, 1, 8}, {3, 2, 1, 2}, {4, 1, 1, 6}, {5, 0, 1, 7}},
+        fullTable()};
+    private static final int[] ACTORS = {10, 1, 1, 2, 2, 4, 4, 6, 10};
+
+    private static int[][] fullTable() {
+        int[][] channels = new int[24][];
+        for (int c = 0; c < 24; c++) {
+            channels[c] = Graphs.ch(c % 10, (c + c / 10) % 10, 1 + c % 8, 1 + c % 8, 8 + c % 9, 25);
+        }
+        return channels;
+    }
 
     private static SdfScheduler analyzed(int graph) {
         SdfScheduler x = Graphs.graph(ACTORS[graph], GRAPHS[graph]);

@@ -39,7 +39,7 @@ public final class Promise13EdgesTest {
     /** "It changes nothing." */
     private static void changesNothing() {
         for (int verdict : States.ALL) {
-            States.unchanged("position()", verdict, x -> {
+            States.asked("position()", verdict, x -> {
                 for (int i = 0; i < 5; i++) {
                     x.position();
                 }

@@ -55,7 +55,7 @@ public final class Promise15EdgesTest {
     /** "It changes nothing." */
     private static void changesNothing() {
         for (int verdict : States.ALL) {
-            States.unchanged("fired()", verdict, x -> {
+            States.asked("fired()", verdict, x -> {
                 for (int a : States.FAR_OFF) {
                     x.fired(a);
                 }

@@ -1,3 +1,6 @@
+import java.util.Arrays;
+import java.util.function.IntToLongFunction;
+
 /** Objects in the state of each verdict, and what a call may and may not do to them. */
 final class States {
     static final int[] ALL = {
@@ -11,11 +14,32 @@ final class States {
 
     /** In no range that the document names. */
     static final int[] FAR_OFF = {
-        Integer.MIN_VALUE, Integer.MIN_VALUE + 1, -257, -65, -2, -1, 257, 1000, Integer.MAX_VALUE - 1, Integer.MAX_VALUE};
+        Integer.MIN_VALUE, Integer.MIN_VALUE + 1, -257, -65, -2, -1,
+        257, 1000, Integer.MAX_VALUE - 1, Integer.MAX_VALUE};
 
     interface Call {
         void on(SdfScheduler x);
     }
+
+    interface Look {
+        String at(SdfScheduler x);
+    }
+
+    /** Each with one getter alone, or with none; the last ones look at the graph. */
+    private static final Look[] LOOKS = {
+        x -> "verdict() " + x.verdict(),
+        x -> "repetitions()" + row(10, x::repetitions),
+        x -> "scheduleLength() " + x.scheduleLength(),
+        x -> "scheduleAt()" + row(20, x::scheduleAt),
+        x -> "bound()" + row(24, x::bound),
+        x -> "position() " + x.position(),
+        x -> "tokenCount()" + row(24, x::tokenCount),
+        x -> "tokenValue()" + row(20, pos -> x.tokenValue(0, pos)),
+        x -> "fired()" + row(10, x::fired),
+        x -> "run() " + x.run(2) + " " + x.run(1) + " " + x.run(256),
+        x -> "analyze() " + x.analyze() + row(24, x::bound),
+        x -> "analyze() " + x.analyze() + " and run() " + x.run(9) + row(24, x::tokenCount),
+        x -> "edits " + probed(x)};
 
     private States() {
     }
@@ -41,7 +65,7 @@ final class States {
                 return new int[][] {first, {1, 1, 1, 1}};
             case SdfScheduler.V_TOO_BIG:
                 int[][] many = new int[18][];
-                java.util.Arrays.fill(many, Graphs.ch(0, 1, 3, 2, 32));
+                Arrays.fill(many, Graphs.ch(0, 1, 3, 2, 32));
                 many[0] = first;
                 return many;
             default:
@@ -60,7 +84,6 @@ final class States {
         if (verdict == SdfScheduler.V_NONE) {
             Checks.due("setTokens(0, 5)", x.setTokens(0, 5), true);
         }
-        Checks.due("verdict()", x.verdict(), verdict);
         return x;
     }
 
@@ -85,6 +108,16 @@ final class States {
         unchanged(call, verdict, 2, 2, made);
     }
 
+    /** Each look is at a pair of its own: a getter that does harm, used for looking, would harm both alike. */
+    static void asked(String getter, int verdict, Call ask) {
+        for (Look look : LOOKS) {
+            SdfScheduler x = of(verdict);
+            ask.on(x);
+            SdfScheduler twin = of(verdict);
+            Checks.due("after " + getter + " with verdict " + verdict, look.at(x), look.at(twin));
+        }
+    }
+
     /** Two objects of the same tables and graphs: analyzed, run and edited alike from now on. */
     static void alike(String after, SdfScheduler x, SdfScheduler twin) {
         Checks.due("analyze() " + after, x.analyze(), twin.analyze());
@@ -92,6 +125,14 @@ final class States {
         Checks.due("run(9) " + after, x.run(9), twin.run(9));
         Checks.due("run on " + after, Checks.shown(x), Checks.shown(twin));
         Checks.due("graph " + after, probed(x), probed(twin));
+    }
+
+    private static String row(int most, IntToLongFunction getter) {
+        StringBuilder s = new StringBuilder();
+        for (int n = -1; n <= most; n++) {
+            s.append(' ').append(getter.applyAsLong(n));
+        }
+        return s.toString();
     }
 
     /** V_NONE, and every getter's "otherwise" answer. */
